@@ -864,12 +864,13 @@ public final class QuadWorlds {
 
         /** Whether the first of the row's four numbers that is not 0 is 1; a row is read as one number by q. */
         private static boolean isFormPoint(int row, int q) {
-            for (int lead = q * q * q; lead > 0; lead /= q) {
-                if (row / lead != 0) {
-                    return row / lead == 1;
-                }
+            int rest = row;
+            int first = 0;
+            for (int place = 0; place < 4; place++) {
+                first = rest % q != 0 ? rest % q : first;
+                rest /= q;
             }
-            return false;
+            return first == 1;
         }
 
         private static boolean isZeroForm(int one, int other, int q) {

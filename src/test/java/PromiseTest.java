@@ -731,6 +731,9 @@ public final class PromiseTest {
         is("spans of all, t of 0", 0, x.regular(0, 2));
         tell(0, 3, of(0, 1), of(1, 2));
         is("t unlike", STATE, x.regular(0, 0));
+        tell(0, 4, of(0, 1), of(0, 1), of(0, 2), of(0, 2), of(3, 1), of(3, 1), of(3, 2), of(3, 2));
+        is("a ring told twice, point 0 alone not near", 0, x.regular(0, 3));
+        is("a ring told twice, point 3 alone not near", 0, x.regular(0, 0));
     }
 
     private static void centres() {
