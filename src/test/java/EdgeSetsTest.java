@@ -16,6 +16,7 @@ public final class EdgeSetsTest extends Edges {
         spreadSeeking21();
         ovoids22();
         mostTries();
+        longestSearches();
         tries23();
         triesStay23();
         meets24();
@@ -132,6 +133,8 @@ public final class EdgeSetsTest extends Edges {
         takes("18 regular(): t + 1", x -> tell(x, 0, 4, ring), x -> x.regular(0, 3), 1);
         int[][] twice = {{0, 1}, {1, 2}, {2, 3}, {3, 0}, {0, 1}, {1, 2}, {2, 3}, {3, 0}};
         takes("18 regular(): fewer than t + 1", x -> tell(x, 0, 4, twice), x -> x.regular(0, 0), 0);
+        takes("18 regular(): fewer, POINT 0 alone not NEAR", x -> tell(x, 0, 4, twice), x -> x.regular(0, 2), 0);
+        takes("18 regular(): fewer, the last POINT alone not NEAR", x -> tell(x, 0, 4, twice), x -> x.regular(0, 1), 0);
         takes("18 regular(): more than t + 1", x -> tell(x, 0, 4, of(0, 1), of(2, 3)), x -> x.regular(0, 0), 0);
         takes("18 regular(): none that is not NEAR", x -> tell(x, 0, 3, of(0, 1, 2)), x -> x.regular(0, 0), 1);
         int[][] two = {{0, 1}, {1, 2}, {2, 3}, {3, 0}, {4, 5}, {5, 6}, {6, 7}, {7, 4}};
@@ -194,6 +197,34 @@ public final class EdgeSetsTest extends Edges {
         takes("20 ovoid(): the greatest GRID", x -> x.grid(0, 6, 6), x -> x.ovoid(0, 6), 6, askedIs(bits(0, 7, 14, 21, 28, 35)), triesAre(6));
         spends("20 ovoid(): the greatest GRID, one TRY less", x -> x.grid(0, 6, 6), x -> x.ovoid(0, 5), 5);
         takes("20 ovoid(): 22 pairs", x -> pairs(x, 0, 22, 1, false), x -> x.ovoid(0, 22), 22, askedIs(0x55555555555L), triesAre(22));
+    }
+
+    /** 45 POINTS, 44 LINES, all through the last POINT. */
+    private static void star(QuadWorlds x) {
+        x.world(0, 45);
+        for (int p = 0; p < 44; p++) {
+            row(x, 3, p, 44);
+            x.line(0, 3);
+        }
+    }
+
+    /** 20, 21, 22: the most that an OVOID can have; a SPENT search leaves nothing to the next one. */
+    private static void longestSearches() {
+        takes("20 ovoid() of a star", EdgeSetsTest::star, x -> x.ovoid(0, 44), 44, askedIs((1L << 44) - 1), triesAre(44));
+        spends("20 ovoid() of a star, one TRY less", EdgeSetsTest::star, x -> x.ovoid(0, 43), 43);
+        takes("22 ovoids() of a star", EdgeSetsTest::star, x -> x.ovoids(0, 45), 1, askedIs(2), triesAre(45));
+        spends("22 ovoids() of a star, one TRY less", EdgeSetsTest::star, x -> x.ovoids(0, 44), 44);
+        Setting spent = x -> {
+            house(x);
+            x.ovoids(2, 20);
+            x.alike(2, 2, 10);
+        };
+        takes("20 ovoid() behind SPENT ones", spent, x -> x.ovoid(2, 6), 5, askedIs(17475), triesAre(6));
+        takes("21 spread() behind SPENT ones", spent, x -> x.spread(2, 5), 5, askedIs(12561), triesAre(5));
+        takes("22 ovoids() behind SPENT ones", spent, x -> x.ovoids(2, 32), 1, askedIs(6), triesAre(32));
+        takes("26 alike() behind SPENT ones", spent, x -> x.alike(2, 2, 15), 1, triesAre(15), sentTo(14, 14));
+        takes("20 ovoid() of NONE behind SPENT ones", spent, x -> x.ovoid(1, 40), NONE, triesAre(40));
+        takes("26 alike() of 0 behind SPENT ones", spent, x -> x.alike(1, 2, 1), 0, triesAre(0));
     }
 
     /** 20: "NONE: there is none": by all TRIES that there are, not by one less. */

@@ -274,6 +274,14 @@ public final class EdgeTermsTest extends Edges {
         Setting lastOff = x -> tell(x, 0, 4, of(0, 1), of(2, 3), of(0, 2), of(1, 3, 2));
         takes("10 told: s, the last LINE unlike", lastOff, x -> x.told(0, 3), NONE);
         takes("10 told: t, POINT 2 unlike", lastOff, x -> x.told(0, 4), NONE);
+        for (int p = 0; p < 4; p++) {
+            int out = p;
+            Setting alone = x -> tell(x, 0, 4, of((out + 1) % 4, (out + 2) % 4, (out + 3) % 4));
+            takes("10 told: t, POINT " + p + " alone unlike", alone, x -> x.told(0, 4), NONE);
+            Setting line = x -> tell(x, 0, 4, out == 0 ? of(0, 1, 2) : of(0, 1), out == 1 ? of(1, 2, 3) : of(1, 2),
+                out == 2 ? of(2, 3, 0) : of(2, 3), out == 3 ? of(3, 0, 1) : of(3, 0));
+            takes("10 told: s, LINE " + p + " alone unlike", line, x -> x.told(0, 3), NONE);
+        }
         Setting most = x -> tellAlike(x, 0, 2, 45);
         takes("10 told: s of 45 LINES", most, x -> x.told(0, 3), 1);
         takes("10 told: t of 45 LINES", most, x -> x.told(0, 4), 44);
